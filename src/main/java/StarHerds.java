@@ -526,14 +526,14 @@ public final class StarHerds {
         private int size = 0;
 
         private void add(int number) {
-            for (int shift = 24; shift >= 0 && size < bytes.length; shift -= 8) {
+            for (int shift = 24; shift >= 0 && size < TAPE_BYTES; shift -= 8) {
                 bytes[size] = number >>> shift & 255;
                 size++;
             }
         }
 
         private int byteAt(int at) {
-            return at >= 0 && at < bytes.length ? bytes[at] : 0;
+            return at >= 0 && at < TAPE_BYTES ? bytes[at] : 0;
         }
 
         private int numberAt(int at) {
@@ -851,7 +851,7 @@ public final class StarHerds {
 
         private void goTo(int place) {
             at = place;
-            sign = place < end ? tape.byteAt(place) : NONE;
+            sign = place >= 0 && place < end && place < TAPE_BYTES ? tape.bytes[place] : NONE;
         }
 
         private int placeIn(String letters) {
@@ -1319,7 +1319,7 @@ public final class StarHerds {
             choices = 0;
             chooseInns(INNS);
             Arrays.fill(came, NONE);
-            for (int set = 0; isSet(set); set++) {
+            for (int set = 0; set < SETS && isSet(set); set++) {
                 if (came[set] == NONE) {
                     lightSet(set);
                     crossing.passHours(trial, plain.hoursLeft());
@@ -1335,7 +1335,7 @@ public final class StarHerds {
             chooseStrays();
             Arrays.fill(came, NONE);
             clearFound();
-            for (int set = 0; isSet(set); set++) {
+            for (int set = 0; set < SETS && isSet(set); set++) {
                 if (came[set] == NONE) {
                     lightSet(set);
                     crossing.passHours(trial, n);
@@ -1384,7 +1384,7 @@ public final class StarHerds {
             for (int b = 0; b < choices && b < choice.length; b++) {
                 mattered |= (crossing.asked >> choice[b] & 1) << b;
             }
-            for (int other = set; isSet(other); other++) {
+            for (int other = set; other < SETS && isSet(other); other++) {
                 if (((other ^ set) & mattered) == 0) {
                     came[other] = outcome;
                 }
@@ -1430,7 +1430,7 @@ public final class StarHerds {
 
         private void fillCosts() {
             costs[0] = 0;
-            for (int set = 1; isSet(set); set++) {
+            for (int set = 1; set < SETS && isSet(set); set++) {
                 int b = Integer.numberOfTrailingZeros(set);
                 int rest = set & set - 1;
                 int lamp = b < choice.length ? choice[b] : NONE;
@@ -1441,7 +1441,7 @@ public final class StarHerds {
         /** The set of the plan by so many coins. */
         private int planBy(int coins) {
             int chosen = 0;
-            for (int set = 1; isSet(set); set++) {
+            for (int set = 1; set < SETS && isSet(set); set++) {
                 boolean isBetter = came[set] > cameOf(chosen)
                         || came[set] == cameOf(chosen) && costs[set] < costOf(chosen);
                 if (costs[set] <= coins && isBetter) {
@@ -1455,7 +1455,7 @@ public final class StarHerds {
         private int safeSet() {
             int living = plain.herds.living();
             int safest = NONE;
-            for (int set = 0; isSet(set); set++) {
+            for (int set = 0; set < SETS && isSet(set); set++) {
                 if (came[set] == living && (!isSet(safest) || costs[set] < costOf(safest))) {
                     safest = set;
                 }

@@ -122,6 +122,9 @@ public final class PromiseTest {
         x.hour(0);
         yes("a rock where a herd was", x.ground(4, 1, 3) && x.ground(6, 13, 3));
         no("a rock where that herd is now", x.ground(4, 2, 3));
+        x.inn(0, 8, 8, 0);
+        x.herd(0, 9, 8, 1, 0, 0);
+        no("a rock where inn 0 or herd 0 is", x.ground(8, 8, 3) || x.ground(9, 8, 3));
     }
 
     private static void p3() {
@@ -439,6 +442,8 @@ public final class PromiseTest {
         StarHerds x = by("b99999(1=1)");
         x.inn(0, 0, 0, 0);
         due("b", x.price(0), 999);
+        law(x, "b0-1(1=1)");
+        due("b", x.price(0), 0);
         x = by("s100(1=1);w100(1=1);x100(1=1);f100(1=1)");
         x.ground(0, 1, 1);
         x.herd(0, 0, 0, 300, 0, 0);
@@ -455,6 +460,14 @@ public final class PromiseTest {
         x.herd(0, 5, 5, 3, 0, 99);
         x.hour(9);
         due("z", x.herdIs(0, 0), 77);
+        law(x, "z0-1(1=1)");
+        x.herd(0, 5, 5, 3, 0, 99);
+        x.hour(0);
+        due("z", x.herdIs(0, 0), 89);
+        x = by("w0-5(1=1)");
+        x.herd(0, 5, 5, 3, 50, 0);
+        x.hour(0);
+        due("w", x.herdIs(0, 2), 50);
         x = by("q99(u=0);q0-1(u=1)");
         due("q", x.clouded(), 1);
     }
@@ -514,6 +527,9 @@ public final class PromiseTest {
         due("a night less", x.lampIs(0, 2), 98);
         due("98 and 2", x.pay(1, 0, 2), -3);
         due("98 and 1", x.pay(1, 0, 1), 1);
+        x.inn(8, 0, 0, 0);
+        x.drover(3, 2);
+        due("the last drover, the last inn", x.pay(3, 8, 2), 2);
     }
 
     private static void p14() {
@@ -571,6 +587,8 @@ public final class PromiseTest {
         due("however far, not lit", x.pull(0, 1), 236);
         due("horns, no fire", x.pull(0, 13), 500 + 130 + 5);
         due("its own horns", x.pull(0, 12), -1);
+        due("its own horns", x.pull(1, 13), -1);
+        due("others'", x.pull(1, 12), 500 + 120 + 5);
         due("horns of none", x.pull(0, 14), -1);
         due("horns not told", x.pull(0, 15), -1);
         due("not there", x.pull(0, 0), -1);
@@ -616,6 +634,21 @@ public final class PromiseTest {
         x.herd(5, 9, 3, 1, 0, 0);
         x.fire(5, true);
         due("horns pull most", x.target(0), 17);
+        x.herd(3, 3, 3, 1, 0, 0);
+        x.fire(3, true);
+        x.fire(5, false);
+        due("others' horns", x.target(3), 12);
+        x.fire(0, false);
+        due("not its own horns", x.target(3), 2);
+        x.fire(0, true);
+        law(x, "a1(1=1)");
+        due("above 0", x.target(3), 2);
+        law(x, "ah(1=1)");
+        due("by the herd", x.target(3), 2);
+        due("by the herd", x.target(0), -2);
+        law(x, "ar(1=1)");
+        x.hour(9);
+        due("no draw", x.target(0), -2);
         law(x, "a0(1=1)");
         due("not above 0", x.target(0), -2);
         x.hours(24);
@@ -676,6 +709,7 @@ public final class PromiseTest {
         StarHerds x = by("a9(1=1)");
         due("it stays", walk(x, 5, 5, 5, 5), 75);
         due("x", walk(x, 5, 5, 7, 6), 76);
+        due("one x", walk(x, 5, 5, 6, 5), 76);
         due("x below", walk(x, 5, 5, 2, 6), 74);
         due("y", walk(x, 5, 5, 6, 7), 89);
         due("y below", walk(x, 5, 5, 4, 3), 61);
@@ -688,6 +722,10 @@ public final class PromiseTest {
         yes("a rock", x.ground(5, 6, 3));
         due("both rocks", walk(x, 5, 5, 7, 6), 75);
         due("a rock in y: by x below", walk(x, 5, 5, 4, 7), 74);
+        due("a rock in y: by x", walk(x, 5, 5, 6, 8), 75);
+        x.ground(6, 5, 0);
+        due("a rock in y: by one x", walk(x, 5, 5, 6, 8), 76);
+        x.ground(6, 5, 3);
         due("a rock in y, none other", walk(x, 5, 5, 5, 8), 75);
         x.gone(9);
         x.herd(0, 5, 5, 9, 0, 0);
@@ -849,6 +887,9 @@ public final class PromiseTest {
         due("living", x.tried(3, 1), 14);
         due("through", x.tried(2, 2), 0);
         due("through", x.tried(3, 2), 7);
+        x.herd(1, 0, 13, 5, 0, 0);
+        due("through", x.tried(1, 2), 5);
+        x.herd(1, 0, 13, 0, 0, 0);
         due("cattle", x.tried(1, 10), 7);
         due("cattle", x.tried(1, 14), 7);
         due("square", x.tried(2, 20), 28);
@@ -948,6 +989,11 @@ public final class PromiseTest {
         x.gone(11);
         due("also when it is gone", x.led(11), 4);
         due("others", x.led(0), 0);
+        x.inn(0, 0, 2, 0);
+        x.dog(0, 1);
+        x.herd(0, 0, 0, 9, 0, 0);
+        x.hour(0);
+        due("led to inn 0", x.led(0), 2);
     }
 
     /** Herd 0 goes down column 0 over bogs; inns 0 and 1 lead it off to the right from two places. */
@@ -1104,6 +1150,32 @@ public final class PromiseTest {
         due("together 6", x.prices(0, 1, 6, 0), 1);
         due("together 6", x.prices(0, 1, 6, 1), 3);
         due("together 6", x.prices(0, 1, 6, 2), 3);
+        x = planned();
+        x.inn(2, 3, 0, 0);
+        due("the third one costs 1", x.prices(0, 1, 9, 0), 5);
+        due("the third one costs 1", x.prices(0, 1, 9, 1), 1);
+        noneRests();
+    }
+
+    /** A plain on which for any two prices one of the two inns would ask another one. */
+    private static void noneRests() {
+        StarHerds x = by("a[l*2+h*11]%7+1(1=1);s99(1=1);b1(l=2);b1(l=3)");
+        int[] bogs = {0, 2, 3, 6, 10, 3, 8, 2, 9, 2, 8, 5, 7, 5, 11, 1, 3, 5, 4, 7, 6, 1, 4, 4, 4, 6, 2, 3, 1, 2, 13, 0,
+            12, 0, 1, 4, 8, 7, 7, 1, 10, 0, 9, 5, 1, 1, 3, 3, 13, 6, 0, 0, 9, 5, 13, 3, 1, 3, 4, 0};
+        for (int k = 0; k < bogs.length; k += 2) {
+            x.ground(bogs[k], bogs[k + 1], 1);
+        }
+        int[] inns = {12, 3, 2, 1, 0, 6, 11, 2};
+        for (int k = 0; k < inns.length; k += 2) {
+            x.inn(k / 2, inns[k], inns[k + 1], 0);
+        }
+        int[] herds = {3, 1, 2, 6, 2, 3, 13, 1, 3, 13, 2, 4, 1, 4, 4, 8, 1, 4};
+        for (int k = 0; k < herds.length; k += 3) {
+            x.herd(k / 3, herds[k], herds[k + 1], herds[k + 2], 0, 0);
+        }
+        due("none rests", x.prices(0, 1, 5, 0), 0);
+        due("none rests", x.prices(0, 1, 5, 1), -2);
+        due("none rests", x.prices(0, 1, 5, 2), -2);
     }
 
     private static void p28() {
@@ -1172,6 +1244,23 @@ public final class PromiseTest {
         due("the first", x.whoLit(1, 1), 256);
         feed(x, right);
         due("in all", x.whoLit(1, 2), 256);
+        StarHerds y = by("a9(1=1)");
+        y.herd(0, 0, 1, 20, 0, 0);
+        y.inn(0, 5, 1, 0);
+        y.stray(9, 4, 1, 0, false);
+        feed(y, 15);
+        due("either or both", y.whoLit(1, 0), 3);
+        feed(y, 15);
+        due("the first", y.whoLit(1, 1), 1);
+        feed(y, 15);
+        due("none in all", y.whoLit(1, 2), 0);
+        y.gone(0);
+        y.stray(9, 4, 1, 0, true);
+        feed(y, 15);
+        due("the stray one", y.whoLit(1, 0), 1);
+        law(y, "a9(1=1);s9(1=1)");
+        y.ground(0, 2, 1);
+        due("behind it the stray one is lit as before", y.plan(0, 2), 20);
         x.hours(1);
         feed(x, new int[20]);
         due("beyond the night", x.whoLit(8, 0), -1);
@@ -1199,6 +1288,7 @@ public final class PromiseTest {
         due("what", x.where(0, 1, 14, -1), -1);
         due("before the rock", x.where(0, 1, 0, 0), 1);
         due("it stood there", x.where(0, 8, 0, 1), 0);
+        due("the last square", x.where(0, 1, 195, 1), 181);
         due("behind a rock", x.where(0, 1, 28, 0), 0);
         due("behind a rock", x.where(0, 1, 28, 1), -2);
         due("two up", x.where(0, 2, 59, 1), 31);
@@ -1232,6 +1322,8 @@ public final class PromiseTest {
         due("draws 0 to 2", x.odds(1, 48, 1), 10);
         due("always", x.odds(1, 41, 0), 1);
         due("always", x.odds(1, 41, 1), 1);
+        due("always", x.odds(1, 0, 0), 1);
+        due("the bounds", x.odds(1, 9999, 1), 1);
         due("never", x.odds(1, 51, 0), 0);
         due("never", x.odds(1, 51, 1), 1);
         due("two draws, together 2 at most", x.odds(2, 48, 0), 3);
@@ -1302,6 +1394,14 @@ public final class PromiseTest {
         x.hours(1);
         x.clouds(9);
         x.feed(0, 0, 0, 0, 0);
+        x.ground(0, 2, 1);
+        x.herd(5, 0, 1, 9, 0, 0);
+        x.hours(1);
+        x.ground(12, 12, 1);
+        x.herd(5, 12, 11, 9, 0, 0);
+        x.hours(1);
+        x.ground(12, 12, 0);
+        due("led", x.led(18), 3);
         x.keep();
         int[] before = all(x);
         for (int k = 0; k < 2; k++) {
@@ -1313,6 +1413,8 @@ public final class PromiseTest {
             x.gone(10);
             x.fire(0, false);
             x.ground(0, 2, 1);
+            x.ground(12, 12, 1);
+            x.herd(5, 12, 11, 9, 0, 0);
             x.hours(10);
             x.herd(0, 7, 7, 7, 7, 7);
             x.herd(1, 7, 7, 7, 7, 7);
@@ -1382,6 +1484,9 @@ public final class PromiseTest {
         due("two are right", x.check(2), -1);
         x.feed(-300, 0, 8, 1, 0);
         due("below 0", x.check(1), 0);
+        x.herd(1, 0, 0, 0, 0, 0);
+        x.feed(300, 1 << 31, 0, 0, 0);
+        due("all four bytes", x.check(2), 1);
         x.feed(1, 0, 0, 0, 0);
         due("none is asked", x.check(0), -1);
         due("the tape is empty", x.count(4), 0);
@@ -1389,6 +1494,8 @@ public final class PromiseTest {
 
     private static void p36() {
         StarHerds x = by("a1(1=1);b1(1=1)");
+        x.inn(0, 0, 0, 0);
+        x.dog(0, 5);
         x.inn(1, 0, 0, 0);
         x.dog(1, 5);
         x.stray(10, 0, 0, 0, true);
@@ -1416,7 +1523,7 @@ public final class PromiseTest {
         due("X", x.count(5), 123);
         due("told", x.count(6), 41);
         due("on", x.count(7), 8);
-        due("lit", x.count(8), 2 + 1024 + (1 << 15));
+        due("lit", x.count(8), 1 + 2 + 1024 + (1 << 15));
         due("living", x.count(9), 42);
         due("coins", x.count(10), 0);
         due("coins", x.count(12), 77);

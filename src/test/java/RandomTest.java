@@ -172,20 +172,27 @@ public final class RandomTest {
         if (s.length() == 0) {
             s.append("a9(1=1)");
         }
-        if (below(5) == 0) {
+        if (below(3) == 0) {
             int changes = 1 + below(3);
             for (int k = 0; k < changes && s.length() > 0; k++) {
                 int at = below(s.length());
                 String signs = "azswxfbquvhntexygcrlkdp0123456789()[]!&|<>=+-*/%;; A\u00e9";
                 char sign = signs.charAt(below(signs.length()));
+                String[] extra = {String.valueOf(sign), "((((((", "[[[", "!!!!", "!(!(", "123", "00000"};
                 switch (below(3)) {
                     case 0: s.setCharAt(at, sign); break;
-                    case 1: s.insert(at, below(3) == 0 ? "((((((" : String.valueOf(sign)); break;
+                    case 1: s.insert(at, extra[below(extra.length)]); break;
                     default: s.deleteCharAt(at); break;
                 }
             }
             if (s.length() > 240) {
                 s.setLength(240);
+            }
+        }
+        if (below(15) == 0) {
+            s.setLength(0);
+            while (s.length() < 110 + below(30)) {
+                s.append(s.length() == 0 ? "" : ";").append("azswxfbq".charAt(below(8))).append(below(9)).append("(1=1)");
             }
         }
         return s.length() == 0 ? "a" : s.toString();
