@@ -1379,8 +1379,26 @@ public final class PromiseTest {
     }
 
     private static void p34() {
+        no("none was kept", new StarHerds().undo());
+        int[] before = all(keptOne());
+        for (int times = 1; times <= 2; times++) {
+            StarHerds x = keptOne();
+            for (int k = 0; k < times; k++) {
+                changeAll(x);
+                yes("undone", x.undo());
+            }
+            due("the law stays", x.count(3), 1);
+            due("the law stays", x.price(0), 2);
+            due("the tape stays", x.count(4), 40);
+            int[] now = all(x);
+            for (int j = 0; j < now.length; j++) {
+                due("number " + j, now[j], before[j]);
+            }
+        }
+    }
+
+    private static StarHerds keptOne() {
         StarHerds x = by("b1(1=1);a9(1=1);s3(1=1)");
-        no("none was kept", x.undo());
         x.ground(4, 4, 2);
         x.ground(0, 1, 1);
         x.inn(0, 1, 1, 1);
@@ -1403,36 +1421,30 @@ public final class PromiseTest {
         x.ground(12, 12, 0);
         due("led", x.led(18), 3);
         x.keep();
-        int[] before = all(x);
-        for (int k = 0; k < 2; k++) {
-            x.ground(4, 4, 3);
-            x.ground(5, 5, 1);
-            x.inn(0, 9, 9, 0);
-            x.inn(5, 9, 9, 0);
-            x.stray(9, 3, 3, 0, false);
-            x.gone(10);
-            x.fire(0, false);
-            x.ground(0, 2, 1);
-            x.ground(12, 12, 1);
-            x.herd(5, 12, 11, 9, 0, 0);
-            x.hours(10);
-            x.herd(0, 7, 7, 7, 7, 7);
-            x.herd(1, 7, 7, 7, 7, 7);
-            x.drover(0, 1);
-            x.clouds(7);
-            x.seed(5);
-            law(x, "b2(1=1)");
-            x.feed(0, 0, 0, 0, 0);
-            x.feed(0, 0, 0, 0, 0);
-            yes("undone", x.undo());
-            int[] now = all(x);
-            for (int j = 0; j < now.length; j++) {
-                due("number " + j, now[j], before[j]);
-            }
-            due("the law stays", x.count(3), 1);
-            due("the law stays", x.price(0), 2);
-            due("the tape stays", x.count(4), 40);
-        }
+        return x;
+    }
+
+    /** Changes something of each kind that is kept, and the law and the tape, which are not. */
+    private static void changeAll(StarHerds x) {
+        x.ground(4, 4, 3);
+        x.ground(5, 5, 1);
+        x.inn(0, 9, 9, 0);
+        x.inn(5, 9, 9, 0);
+        x.stray(9, 3, 3, 0, false);
+        x.gone(10);
+        x.fire(0, false);
+        x.ground(0, 2, 1);
+        x.ground(12, 12, 1);
+        x.herd(5, 12, 11, 9, 0, 0);
+        x.hours(10);
+        x.herd(0, 7, 7, 7, 7, 7);
+        x.herd(1, 7, 7, 7, 7, 7);
+        x.drover(0, 1);
+        x.clouds(7);
+        x.seed(5);
+        law(x, "b2(1=1)");
+        x.feed(0, 0, 0, 0, 0);
+        x.feed(0, 0, 0, 0, 0);
     }
 
     /** All that is kept. */

@@ -10,6 +10,9 @@ public final class RandomTest {
     private static final Map<String, Method> FAST = new HashMap<>();
     private static final Map<String, Method> SLOW = new HashMap<>();
 
+    /** So that with what one step and the last look at all take no object is used for more than 512 calls. */
+    private static final int MOST_STEPS = 360;
+
     private final Random random;
     private final StarHerds fast = new StarHerds();
     private final SlowHerds slow = new SlowHerds();
@@ -375,7 +378,7 @@ public final class RandomTest {
             }
         }
         int steps = 20 + below(60);
-        for (int k = 0; k < steps && calls < 430; k++) {
+        for (int k = 0; k < steps && calls < MOST_STEPS; k++) {
             int kind = below(20);
             if (kind < 7) {
                 tell();

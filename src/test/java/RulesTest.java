@@ -124,7 +124,7 @@ public final class RulesTest {
     }
 
     private static void callAll(StarHerds x) {
-        for (int k = 0; k < 20; k++) {
+        for (int k = 0; k < 11; k++) {
             x.feed(1630873717, 1026566497, 0, 0, 0);
             x.law(7);
             for (int i = 0; i < 9; i++) {
