@@ -166,6 +166,18 @@ public final class ForesightEdgesTest extends Edges {
             x.gone(i);
         }
         due("the last three", x.plan(9999, 0), 1 + 2 + 4 + 64 + 128 + 256);
+        // Lamp u holds herd 0 back in HOUR u, lamp 8 herd 1: all nine are needed.
+        x = by("a9(h=0&l=u|h=1&l=8);s99(1=1);b2(1=1)");
+        herds(x, 20, 20);
+        for (int i = 0; i < 9; i++) {
+            x.inn(i, i == 8 ? 2 : 0, 0, 0);
+        }
+        due("all nine", x.plan(18, 0), 511);
+        due("all nine", x.plan(18, 1), 18);
+        due("all nine", x.plan(18, 2), 40);
+        due("all nine", x.safe(0), 511);
+        due("one coin less: the last one alone", x.plan(17, 0), 256);
+        due("one coin less", x.plan(17, 2), 20);
     }
 
     private static void isLeft() {
@@ -381,6 +393,15 @@ public final class ForesightEdgesTest extends Edges {
         due("the same herd", x.prices(0, 6, 9, 0), 1);
         due("the same herd", x.prices(0, 6, 9, 1), 1);
         due("the same herd", x.prices(0, 6, 9, 2), 1);
+        // Whatever two ask here, one of them gains more by another price.
+        x = ahead(30, 25, 20, 15);
+        inn(x, 0, 4);
+        inn(x, 1, 4);
+        inn(x, 2, 0);
+        inn(x, 3, 2);
+        due("none rests", x.prices(0, 1, 6, 0), 0);
+        due("none rests", x.prices(0, 1, 6, 1), -2);
+        due("none rests", x.prices(0, 1, 6, 2), -2);
         asks("prices", y -> y.prices(2, 4, 9, 0));
         asks("prices, the first", y -> y.prices(4, 2, 9, 1));
     }
@@ -537,6 +558,16 @@ public final class ForesightEdgesTest extends Edges {
         due("3 in all", lit(x, 1, 2, square(5, 5)), 8);
         due("the first", lit(x, 1, 1, square(5, 5)), 8);
         due("without 3 the first is of none", lit(x, 1, 1, square(5, 6)), 0);
+        x.gone(1);
+        x.gone(2);
+        due("with 0 or not", lit(x, 1, 0, square(5, 5)), 2);
+        due("3 alone is in both", lit(x, 1, 2, square(5, 5)), 8);
+        x.gone(0);
+        due("one set", lit(x, 1, 0, square(5, 5)), 1);
+        due("all of it", lit(x, 1, 2, square(5, 5)), 8);
+        for (int i = 0; i < 4; i++) {
+            x.inn(i, 5, 5, 0);
+        }
         law(x, "a9(l=h+1)");
         x.herd(1, 8, 5, 9, 0, 0);
         x.inn(2, 8, 5, 0);
@@ -739,6 +770,7 @@ public final class ForesightEdgesTest extends Edges {
         due("each byte: the highest", checked(x, 1, 1 + (1 << 24)), 0);
         due("each byte: the next", checked(x, 1, 1 + (1 << 16)), 0);
         due("each byte: the third", checked(x, 1, 1 + (1 << 8)), 0);
+        due("each byte: the highest bit", checked(x, 1, 1 + (1 << 31)), 0);
         due("below 0", checked(x, 1, -1), 0);
         due("seven", checked(x, 7), -2);
         due("-1", checked(x, -1), -2);

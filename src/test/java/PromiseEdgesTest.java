@@ -491,6 +491,16 @@ public final class PromiseEdgesTest extends Edges {
         due("of herd 5", x.tried(1, 25), 17);
         due("without cattle it stays", x.tried(24, 21), 182);
         asks("tried", y -> y.tried(24, 45));
+        x = by("w9(1=1);f3(1=1)");
+        for (int h = 0; h < 6; h++) {
+            x.herd(h, h, 0, 10 + h, 20 + h, 30 + h);
+        }
+        for (int h = 0; h < 6; h++) {
+            due("cattle of herd " + h, x.tried(2, 10 + h), 10 + h);
+            due("square of herd " + h, x.tried(2, 20 + h), 28 + h);
+            due("thirst of herd " + h, x.tried(2, 30 + h), 38 + h);
+            due("fear of herd " + h, x.tried(2, 40 + h), 36 + h);
+        }
     }
 
     private static void herdIs() {
